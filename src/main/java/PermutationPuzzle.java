@@ -438,8 +438,9 @@ public final class PermutationPuzzle {
 
     /**
      * What the operator % yields, which LANGUAGE.md does not leave for doubles. The dividend is at
-     * most 1000000 and the divisor a whole number but 0, so every step but the division is exact;
-     * the division can only round up to the next whole number.
+     * most 1000000 and the divisor a whole number but 0, so all is exact but the division; and that
+     * never rounds up to a whole number, since a dividend below a multiple of the divisor is below
+     * it by a unit of its last place, which makes more than half a unit in the quotient.
      */
     private static double remainderOf(double dividend, double divisor) {
         double size = dividend < 0 ? -dividend : dividend;
@@ -448,9 +449,6 @@ public final class PermutationPuzzle {
             return dividend;
         }
         double rest = size - (double) (int) (size / step) * step;
-        if (rest < 0) {
-            rest = rest + step;
-        }
         return dividend < 0 ? -rest : rest;
     }
 
