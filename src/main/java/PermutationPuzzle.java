@@ -463,17 +463,17 @@ public final class PermutationPuzzle {
         }
 
         static int imageOf(int permutation, int index) {
-            return permutation >>> BITS * index & MASK;
+            return (permutation >>> (BITS * index)) & MASK;
         }
 
         static int withImage(int permutation, int index, int image) {
-            return permutation & ~(MASK << BITS * index) | image << BITS * index;
+            return (permutation & ~(MASK << (BITS * index))) | (image << (BITS * index));
         }
 
         static int then(int first, int second) {
             int result = 0;
             for (int i = 0; i < MOST_POSITIONS; i++) {
-                result |= imageOf(second, imageOf(first, i)) << BITS * i;
+                result |= imageOf(second, imageOf(first, i)) << (BITS * i);
             }
             return result;
         }
@@ -481,7 +481,7 @@ public final class PermutationPuzzle {
         static int inverseOf(int permutation) {
             int result = 0;
             for (int i = 0; i < MOST_POSITIONS; i++) {
-                result |= i << BITS * imageOf(permutation, i);
+                result |= i << (BITS * imageOf(permutation, i));
             }
             return result;
         }
@@ -617,7 +617,7 @@ public final class PermutationPuzzle {
         }
 
         private boolean acceptsPosition(int position, int positions) {
-            if (position < 0 || position >= positions || (used >>> position & 1) == 1) {
+            if (position < 0 || position >= positions || ((used >>> position) & 1) == 1) {
                 return false;
             }
             used |= 1 << position;
@@ -913,7 +913,7 @@ public final class PermutationPuzzle {
         }
 
         boolean isDefined(int move) {
-            return (definedMoves >>> move & 1) == 1;
+            return ((definedMoves >>> move) & 1) == 1;
         }
 
         void defineMove(int move, int effect) {
@@ -953,7 +953,7 @@ public final class PermutationPuzzle {
             int wider = set;
             for (int letter = 0; letter < LETTERS; letter++) {
                 for (int i = 0; i < MOST_POSITIONS; i++) {
-                    if ((set >>> i & 1) == 1) {
+                    if (((set >>> i) & 1) == 1) {
                         wider |= 1 << Permutation.imageOf(effects[letter], i);
                     }
                 }
@@ -970,7 +970,7 @@ public final class PermutationPuzzle {
         private final int[] levels = new int[MOST_ARRANGEMENTS];
         /** In the order of their depths, the first size of them. */
         private final int[] arrangements = new int[MOST_ARRANGEMENTS];
-        /** One more than the last level, so that the end of each can be looked up. */
+        /** One more than there are levels, so that the end of each can be looked up; 0 at first. */
         private final int[] levelStarts = new int[MOST_ARRANGEMENTS + 1];
         private final int[] turns = new int[LETTERS];
         private int turnCount = 0;
@@ -989,7 +989,6 @@ public final class PermutationPuzzle {
                         reach(Permutation.then(arrangements[i], turns[turn]), level + 1);
                     }
                 }
-                levelStarts[level] = start;
                 levelStarts[level + 1] = end;
                 lastLevel = level;
                 start = end;

@@ -117,6 +117,13 @@ public final class PuzzlePromisesTest {
         commutators(Lab.of(7, "(1234567)", "(12)"), "aaAA", null, null, "abAB", "baaBAA", null,
                 null, null);
         commutators(Lab.of(5, "(123)", "(345)"), "aaAA", null, null, "abAB", null, "abABBAba");
+        commutators(Lab.of(7, "(1234)", "(17)(26)(35)"), "aaAA", null, null, null, null, null,
+                null, "abAB");
+        // <a,bc> moves 4, too, but comes later, since it has more letters.
+        PermutationPuzzle three = Lab.of(4, "(12)", "(123)", "(234)");
+        three.findCommutator(2, 4);
+        CHECK.due("commutator that moves 4", Lab.letters(three, 2), "bcBC");
+        commutators(Lab.of(7, "(12)", "(34)", "(56)", "", "(67)"), "aaAA", null, null, "ceCE");
         PermutationPuzzle x = Lab.of(4, "(1234)", "(12)");
         Lab.arrange(x, "4231");
         x.findCommutator(0, 3);

@@ -15,6 +15,7 @@ public final class TextPromisesTest {
         promise6Errors();
         promise6Lengths();
         promise6Failures();
+        textsDoNotMatterForLaterTexts();
         promise7();
         promise8();
         CHECK.finish();
@@ -36,7 +37,12 @@ public final class TextPromisesTest {
         }
         CHECK.due("new: error", Lab.error(x), "none");
         CHECK.due("new: reachable", x.reachable(), 1);
+        CHECK.due("new: greatest depth", x.greatestDepth(), 0);
         CHECK.due("new: depth", x.depth(), 0);
+        for (int i = 1; i <= 3; i++) {
+            CHECK.due("new: orbit(" + i + ")", x.orbit(i), 1 << (i - 1));
+        }
+        CHECK.noElement("new: findCommutator", () -> x.findCommutator(0, 0));
         CHECK.badState("new: restore", x::restore);
         CHECK.due("new: buffer", Lab.typed(x), 0);
     }
@@ -282,6 +288,32 @@ public final class TextPromisesTest {
         CHECK.due("error", Lab.error(x), "10");
         CHECK.due("the word stays", Lab.letters(x, 1), "a");
         CHECK.due("buffer", Lab.typed(x), 0);
+    }
+
+    /** Whatever was open, or could have followed, in a text is forgotten with it. */
+    private static void textsDoNotMatterForLaterTexts() {
+        PermutationPuzzle x = Lab.of(5, "(12)", "(345)");
+        for (int i = 0; i < 3; i++) {
+            Lab.type(x, "(<(<(a");
+            CHECK.badArgument("store of an open text", () -> x.store(0));
+            CHECK.due("its error", x.errorPosition(), 6);
+            Lab.type(x, "'");
+            CHECK.badArgument("store of an apostrophe alone", () -> x.store(0));
+            CHECK.due("its error", x.errorPosition(), 0);
+            Lab.type(x, "(((((a9)9)9");
+            CHECK.badArgument("store of a long open text", () -> x.store(0));
+            Lab.type(x, "(((((a9)9)9)9)9)");
+            CHECK.badArithmetic("store of a long text", () -> x.store(0));
+            CHECK.due("store", Lab.store(x, 0, "<(<(<(a),b>),>),b>"), 18);
+            CHECK.due("store", Lab.store(x, 0, "b"), 1);
+            Lab.type(x, "2");
+            CHECK.badArgument("store of a digit alone", () -> x.store(0));
+            Lab.type(x, "(123");
+            CHECK.badArgument("define of an open text", () -> x.define(2));
+            CHECK.due("its error", x.errorPosition(), 4);
+            CHECK.due("define", Lab.define(x, 2, "(12)(34)"), 4);
+            CHECK.due("targets", Lab.targets(x, 2), "21435");
+        }
     }
 
     private static void promise7() {

@@ -42,7 +42,8 @@ public final class WordPromisesTest {
         for (int wrong : new int[] {-1, 10, 199, 200, Integer.MIN_VALUE, Integer.MAX_VALUE}) {
             CHECK.noIndex("letter(2, " + wrong + ")", () -> x.letter(2, wrong));
         }
-        CHECK.noIndex("letter of an empty word", () -> x.letter(0, 0));
+        CHECK.noIndex("letter of an empty word", () -> x.letter(1, 0));
+        Lab.store(x, 0, "a");
         for (int wrong : NO_SLOTS) {
             CHECK.noIndex("letter(" + wrong + ", 0)", () -> x.letter(wrong, 0));
         }
