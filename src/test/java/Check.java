@@ -50,6 +50,14 @@ final class Check {
         fails(call, java.util.NoSuchElementException.class, run);
     }
 
+    int answers() {
+        return right + wrong;
+    }
+
+    int faults() {
+        return wrong;
+    }
+
     void finish() {
         System.out.println(right + " answers as due, " + wrong + " not");
         if (wrong != 0 || right == 0) {

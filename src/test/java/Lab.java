@@ -86,14 +86,8 @@ final class Lab {
 
     /** All that calls can tell of the state without changing it, but the buffer. */
     static String state(PermutationPuzzle puzzle) {
-        StringBuilder state = new StringBuilder();
-        state.append(tokens(puzzle)).append(" error ").append(error(puzzle));
-        for (int move = 0; move < 5; move++) {
-            state.append(' ').append(targets(puzzle, move));
-        }
-        for (int slot = 0; slot < 4; slot++) {
-            state.append(" [").append(letters(puzzle, slot)).append(']');
-        }
+        StringBuilder state = new StringBuilder(situation(puzzle));
+        state.append(" error ").append(error(puzzle)).append(" rows");
         for (int row = 0; row < 2; row++) {
             for (int index = 0; index < 24; index++) {
                 state.append(' ').append(element(puzzle, row, index));
@@ -102,8 +96,110 @@ final class Lab {
         return state.toString();
     }
 
+    /** What a snapshot holds. */
+    static String situation(PermutationPuzzle puzzle) {
+        StringBuilder situation = new StringBuilder(tokens(puzzle));
+        for (int move = 0; move < 5; move++) {
+            situation.append(' ').append(targets(puzzle, move));
+        }
+        for (int slot = 0; slot < 4; slot++) {
+            situation.append(" [").append(letters(puzzle, slot)).append(']');
+        }
+        return situation.toString();
+    }
+
+    /** The state with the table of depths, the buffer and the snapshot; it is used up by that. */
+    static String everything(PermutationPuzzle puzzle) {
+        return state(puzzle) + " table " + table(puzzle) + " buffer " + buffer(puzzle)
+                + " snapshot " + saved(puzzle);
+    }
+
+    private static String table(PermutationPuzzle puzzle) {
+        StringBuilder table = new StringBuilder();
+        for (int depth = 0; depth <= puzzle.greatestDepth(); depth++) {
+            table.append(puzzle.countAt(depth)).append(' ');
+        }
+        table.append(puzzle.reachable()).append(' ').append(puzzle.averageDepth());
+        return table.toString();
+    }
+
+    /** Its length, and how it reads as a word with one name more if it has room for that. */
+    private static String buffer(PermutationPuzzle puzzle) {
+        String length;
+        try {
+            length = Integer.toString(typed(puzzle));
+        } catch (IllegalStateException e) {
+            length = "full";
+        }
+        try {
+            puzzle.store(0);
+            return length + ' ' + letters(puzzle, 0);
+        } catch (RuntimeException e) {
+            return length + ' ' + e.getClass().getSimpleName() + ' ' + error(puzzle);
+        }
+    }
+
+    private static String saved(PermutationPuzzle puzzle) {
+        try {
+            puzzle.restore();
+        } catch (IllegalStateException e) {
+            return "none";
+        }
+        return situation(puzzle);
+    }
+
     /** How many characters are in the buffer; one more is in it afterwards. */
     static int typed(PermutationPuzzle puzzle) {
         return puzzle.append('a') - 1;
+    }
+
+    /**
+     * A laboratory with 5 positions in which every part of the state differs from that of a new
+     * one, and the snapshot from the present. The moves a, b and c are defined, slot 2 is empty,
+     * and all arrangements are reachable.
+     */
+    static PermutationPuzzle busy() {
+        PermutationPuzzle puzzle = idle();
+        type(puzzle, "ab'");
+        return puzzle;
+    }
+
+    /** As busy, but with an empty buffer. */
+    static PermutationPuzzle idle() {
+        return used("(12345)", "(12)", "(345)");
+    }
+
+    /** As idle, but the present arrangement is not reachable. */
+    static PermutationPuzzle stuck() {
+        return used("(123)", "(12)", "(23)");
+    }
+
+    private static PermutationPuzzle used(String a, String b, String c) {
+        PermutationPuzzle puzzle = of(5, a, b);
+        store(puzzle, 0, "ab'");
+        store(puzzle, 3, "<a,b>");
+        puzzle.perform(0, 1);
+        puzzle.snapshot();
+        define(puzzle, 2, c);
+        store(puzzle, 0, "ca");
+        store(puzzle, 1, "c2");
+        puzzle.exchange(1, 4);
+        puzzle.fillShares(0);
+        puzzle.fillShares(1);
+        puzzle.scale(0, 1, 7);
+        puzzle.scale(1, 2, -9);
+        malform(puzzle, "aaa1");
+        return puzzle;
+    }
+
+    /** Leaves an error position. */
+    static void malform(PermutationPuzzle puzzle, String text) {
+        type(puzzle, text);
+        try {
+            puzzle.store(0);
+        } catch (IllegalArgumentException e) {
+            return;
+        }
+        throw new IllegalStateException(text + " is a word");
     }
 }
