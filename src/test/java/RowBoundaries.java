@@ -236,6 +236,10 @@ final class RowBoundaries {
         check.due("the element stays", Lab.element(thirds, 0, 0), (double) (1f / 3f * 5f * 600f));
         scale(thirds, 1, 5, 600, 1000);
         check.due("the next below", Lab.element(thirds, 1, 0), Math.nextDown(1000000.0));
+        PermutationPuzzle rounded = withShare(3);
+        scale(rounded, 0, 4, 1000);
+        check.due("1000000.03, which is no float", rounded.scale(0, 0, 750), 1000000);
+        check.due("the element", Lab.element(rounded, 0, 0), 1000000.0);
         PermutationPuzzle sevenths = withShare(7);
         scale(sevenths, 1, 125, 80);
         check.badArithmetic("1000000.0000000001", () -> sevenths.scale(1, 0, 700));

@@ -174,26 +174,29 @@ public final class RowPromisesTest {
         String[][] puzzles = {{"(1234567)"}, {"(123)", "(12)"}, {"(1234567)", "(12)"},
             {"(123)(4567)", "(17)"}, {"(12345)", "(34567)"}};
         for (String[] moves : puzzles) {
-            PermutationPuzzle x = Lab.of(7, moves);
-            for (int i = 0; i < 2000; i++) {
-                if (i % 20 == 0) {
-                    x.fillShares(0);
-                    x.fillShares(1);
-                }
-                int index = random.nextInt(3);
-                for (int row = 0; row < 2; row++) {
-                    double size = Math.abs(Lab.element(x, row, index)) + 0.001;
-                    int most = (int) Math.min(1000, 1000000 / size);
-                    x.scale(row, index, 1 + random.nextInt(Math.max(1, most - 1)));
-                }
-                int divisor = random.nextInt(i % 2 == 0 ? 30 : 100000) + 1;
-                float small = (float) Lab.element(x, 0, index);
-                double large = Lab.element(x, 1, index);
-                CHECK.due(small + " % " + divisor, x.remainder(0, index, divisor),
-                        (double) (small % (float) divisor));
-                CHECK.due(large + " % -" + divisor, x.remainder(1, index, -divisor),
-                        large % (double) -divisor);
+            for (int object = 0; object < 50; object++) {
+                manyRemainders(Lab.of(7, moves), random);
             }
+        }
+    }
+
+    private static void manyRemainders(PermutationPuzzle x, Random random) {
+        x.fillShares(0);
+        x.fillShares(1);
+        for (int i = 0; i < 40; i++) {
+            int index = random.nextInt(3);
+            for (int row = 0; row < 2; row++) {
+                double size = Math.abs(Lab.element(x, row, index)) + 0.001;
+                int most = (int) Math.min(1000, 1000000 / size);
+                x.scale(row, index, 1 + random.nextInt(Math.max(1, most - 1)));
+            }
+            int divisor = random.nextInt(i % 2 == 0 ? 30 : 100000) + 1;
+            float small = (float) Lab.element(x, 0, index);
+            double large = Lab.element(x, 1, index);
+            CHECK.due(small + " % " + divisor, x.remainder(0, index, divisor),
+                    (double) (small % (float) divisor));
+            CHECK.due(large + " % -" + divisor, x.remainder(1, index, -divisor),
+                    large % (double) -divisor);
         }
     }
 

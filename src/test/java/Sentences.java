@@ -35,11 +35,11 @@ final class Sentences {
         untested.remove(section + ": " + sentence);
         int answers = check.answers();
         int faults = check.faults();
-        test.run();
+        check.answers("its test", test);
         if (check.faults() > faults) {
             System.out.println("  against " + section + ": " + sentence);
         }
-        check.due("something is tested of: " + sentence, check.answers() > answers, true);
+        check.due("something is tested of: " + sentence, check.answers() > answers + 1, true);
     }
 
     void finish() {

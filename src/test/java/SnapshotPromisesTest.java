@@ -66,16 +66,19 @@ public final class SnapshotPromisesTest {
             y.restore();
             CHECK.due("the snapshot stays available", Lab.state(y), before);
         }
-        y.restore();
-        CHECK.due("restored twice", Lab.state(y), before);
-        y.reset(4);
-        CHECK.badState("restore after reset", y::restore);
-        CHECK.badArgument("reset(9)", () -> y.reset(9));
-        y.snapshot();
-        y.exchange(1, 2);
-        CHECK.badArgument("reset(9)", () -> y.reset(9));
-        y.restore();
-        CHECK.due("a reset that throws keeps the snapshot", Lab.tokens(y), "1234");
+        PermutationPuzzle z = prepared();
+        z.snapshot();
+        z.restore();
+        z.restore();
+        CHECK.due("restored twice", Lab.state(z), before);
+        z.reset(4);
+        CHECK.badState("restore after reset", z::restore);
+        CHECK.badArgument("reset(9)", () -> z.reset(9));
+        z.snapshot();
+        z.exchange(1, 2);
+        CHECK.badArgument("reset(9)", () -> z.reset(9));
+        z.restore();
+        CHECK.due("a reset that throws keeps the snapshot", Lab.tokens(z), "1234");
     }
 
     private static void promise33Moves() {

@@ -198,12 +198,17 @@ final class WordBoundaries {
         check.badArithmetic(call, () -> action.accept(x));
         check.due("words after " + call, Lab.letters(x, 0) + ' ' + Lab.letters(x, 1),
                 lettersOf(u) + ' ' + lettersOf(v));
+        PermutationPuzzle y = withWords(u, v);
+        check.badArithmetic(call, () -> action.accept(y));
         PermutationPuzzle twin = withWords(u, v);
-        for (PermutationPuzzle each : new PermutationPuzzle[] {x, twin}) {
-            each.invert(0, 2);
-            each.invert(1, 2);
-        }
-        check.due("the rest after " + call, Lab.everything(x), Lab.everything(twin));
+        check.due("the rest after " + call, withoutWords(y), withoutWords(twin));
+    }
+
+    /** The long words cost too many calls to be read with the rest. */
+    private static String withoutWords(PermutationPuzzle x) {
+        x.invert(0, 2);
+        x.invert(1, 2);
+        return Lab.everything(x);
     }
 
     private static String lettersOf(String word) {
