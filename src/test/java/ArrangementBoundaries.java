@@ -1,7 +1,7 @@
 import java.util.NoSuchElementException;
 
 /** The boundaries that promises 18 to 22 name. */
-final class ArrangementBoundaries {
+final class ArrangementBoundaries extends Boundaries {
     private static final String NO_SUCH_SLOT =
             "Throws `IndexOutOfBoundsException` if there is no such slot";
     private static final String NO_SUCH_POSITION =
@@ -9,16 +9,11 @@ final class ArrangementBoundaries {
     private static final String NOT_REACHABLE =
             "Throws `NoSuchElementException` if the arrangement is not reachable";
 
-    private final Sentences doc;
-    private final Check check;
-    private final Refusals refusals;
-
     ArrangementBoundaries(Sentences doc, Check check) {
-        this.doc = doc;
-        this.check = check;
-        refusals = new Refusals(check);
+        super(doc, check);
     }
 
+    @Override
     void test() {
         doc.in("Promise 18");
         doc.says("`times`: how many times, -100 to 100; a negative number performs the inverse",
@@ -158,13 +153,8 @@ final class ArrangementBoundaries {
         }
     }
 
-    /** Its depths are 0 to 24, one more than a row has elements for. */
-    private static PermutationPuzzle deep() {
-        return Lab.of(7, "(12)(34)", "(25)(37)(46)", "(34)(57)", "(34)(67)");
-    }
-
     private void depths() {
-        PermutationPuzzle x = deep();
+        PermutationPuzzle x = Lab.deep();
         check.due("the solved arrangement", x.depth(), 0);
         Lab.arrange(x, "2143567");
         check.due("one letter away", x.depth(), 1);
@@ -210,8 +200,8 @@ final class ArrangementBoundaries {
         solution(Lab.of(4, "", "(12)", "(12)"), "2134", "b");
         solution(Lab.of(4, "", "", "", "", "(1234)"), "4123", "E");
         solution(Lab.of(4, "", "", "", "(1432)", "(1234)"), "4123", "d");
-        solution(deep(), "1234576", "abacbacbabcbcbabacbacbdc");
-        solution(deep(), "1243567", "abacbabcbcbabacbacbadcbc");
+        solution(Lab.deep(), "1234576", "abacbacbabcbcbabacbacbdc");
+        solution(Lab.deep(), "1243567", "abacbabcbcbabacbacbadcbc");
     }
 
     private void solveKeepsTheArrangement() {

@@ -1,13 +1,10 @@
 /** The boundaries that the sections 'What it is' and 'Description' name, but those of texts. */
-final class DescriptionBoundaries {
-    private final Sentences doc;
-    private final Check check;
-
+final class DescriptionBoundaries extends Boundaries {
     DescriptionBoundaries(Sentences doc, Check check) {
-        this.doc = doc;
-        this.check = check;
+        super(doc, check);
     }
 
+    @Override
     void test() {
         doc.in("What it is");
         doc.says("An object is used for at most 512 calls after it has been made", this::calls);

@@ -1,13 +1,10 @@
 /** The boundaries that the section 'Description' names for texts and the errors in them. */
-final class GrammarBoundaries {
-    private final Sentences doc;
-    private final Check check;
-
+final class GrammarBoundaries extends Boundaries {
     GrammarBoundaries(Sentences doc, Check check) {
-        this.doc = doc;
-        this.check = check;
+        super(doc, check);
     }
 
+    @Override
     void test() {
         doc.in("Description");
         doc.says("The input buffer holds up to 40 characters with codes from 32 to 126.",

@@ -169,6 +169,11 @@ final class Lab {
         return used("(12345)", "(12)", "(345)");
     }
 
+    /** Its greatest depth is 24, the first for which a row has no element. */
+    static PermutationPuzzle deep() {
+        return of(7, "(12)(34)", "(25)(37)(46)", "(34)(57)", "(34)(67)");
+    }
+
     /** As idle, but the present arrangement is not reachable. */
     static PermutationPuzzle stuck() {
         return used("(123)", "(12)", "(23)");

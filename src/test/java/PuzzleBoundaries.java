@@ -1,17 +1,12 @@
 import java.util.NoSuchElementException;
 
 /** The boundaries that promises 23 to 28 name. */
-final class PuzzleBoundaries {
-    private final Sentences doc;
-    private final Check check;
-    private final Refusals refusals;
-
+final class PuzzleBoundaries extends Boundaries {
     PuzzleBoundaries(Sentences doc, Check check) {
-        this.doc = doc;
-        this.check = check;
-        refusals = new Refusals(check);
+        super(doc, check);
     }
 
+    @Override
     void test() {
         doc.in("Promise 23");
         doc.says("Returns the number of arrangements, 0 for a negative depth.", this::counts);
@@ -47,13 +42,8 @@ final class PuzzleBoundaries {
                 this::noCommutator);
     }
 
-    /** The greatest depth is 24. */
-    private static PermutationPuzzle deep() {
-        return Lab.of(7, "(12)(34)", "(25)(37)(46)", "(34)(57)", "(34)(67)");
-    }
-
     private void counts() {
-        PermutationPuzzle x = deep();
+        PermutationPuzzle x = Lab.deep();
         check.due("countAt(0)", x.countAt(0), 1);
         check.due("countAt(1)", x.countAt(1), 4);
         check.due("countAt(23)", x.countAt(23), 8);
@@ -91,7 +81,7 @@ final class PuzzleBoundaries {
         check.due("without moves", new PermutationPuzzle().greatestDepth(), 0);
         check.due("with one that moves nothing", Lab.of(7, "").greatestDepth(), 0);
         check.due("with one exchange", Lab.of(7, "(17)").greatestDepth(), 1);
-        check.due("more than a row holds", deep().greatestDepth(), 24);
+        check.due("more than a row holds", Lab.deep().greatestDepth(), 24);
         check.due("deeper", Lab.of(7, "(42)(16)(75)", "(712)(534)").greatestDepth(), 28);
     }
 
@@ -99,7 +89,7 @@ final class PuzzleBoundaries {
         check.due("of one", new PermutationPuzzle().averageDepth(), 0.0);
         check.due("of two", Lab.of(2, "(12)").averageDepth(), 0.5);
         check.due("of three", Lab.of(3, "(123)").averageDepth(), 2.0 / 3.0);
-        PermutationPuzzle x = deep();
+        PermutationPuzzle x = Lab.deep();
         int sum = 0;
         for (int depth = 1; depth <= 24; depth++) {
             sum += depth * x.countAt(depth);

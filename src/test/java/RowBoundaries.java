@@ -1,18 +1,13 @@
 /** The boundaries that promises 29 to 31 name. */
-final class RowBoundaries {
+final class RowBoundaries extends Boundaries {
     private static final String NO_SUCH_ELEMENT =
             "Throws `IndexOutOfBoundsException` if there is no such row or element";
 
-    private final Sentences doc;
-    private final Check check;
-    private final Refusals refusals;
-
     RowBoundaries(Sentences doc, Check check) {
-        this.doc = doc;
-        this.check = check;
-        refusals = new Refusals(check);
+        super(doc, check);
     }
 
+    @Override
     void test() {
         doc.in("Promise 29");
         doc.says("Fills a row with the shares of the depths: the element d becomes the number of"
@@ -41,13 +36,8 @@ final class RowBoundaries {
         doc.says("Throws `ArithmeticException` if the divisor is 0", this::divisors);
     }
 
-    /** The greatest depth is 24. */
-    private static PermutationPuzzle deep() {
-        return Lab.of(7, "(12)(34)", "(25)(37)(46)", "(34)(57)", "(34)(67)");
-    }
-
     private void shares() {
-        PermutationPuzzle x = deep();
+        PermutationPuzzle x = Lab.deep();
         x.fillShares(0);
         x.fillShares(1);
         for (int depth = 0; depth < 24; depth++) {
@@ -66,7 +56,7 @@ final class RowBoundaries {
 
     private void depthsThatDoNotOccur() {
         for (int row = 0; row < 2; row++) {
-            PermutationPuzzle x = deep();
+            PermutationPuzzle x = Lab.deep();
             x.fillShares(row);
             x.scale(row, 22, -1);
             x.scale(row, 23, 0);

@@ -1,15 +1,10 @@
 /** The boundaries that promises 32 and 33 name. */
-final class SnapshotBoundaries {
-    private final Sentences doc;
-    private final Check check;
-    private final Refusals refusals;
-
+final class SnapshotBoundaries extends Boundaries {
     SnapshotBoundaries(Sentences doc, Check check) {
-        this.doc = doc;
-        this.check = check;
-        refusals = new Refusals(check);
+        super(doc, check);
     }
 
+    @Override
     void test() {
         doc.in("Promise 32");
         doc.says("Takes a snapshot of the moves, the words and the arrangement.", this::parts);

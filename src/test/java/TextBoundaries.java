@@ -1,17 +1,12 @@
 /** The boundaries that promises 1 to 8 name. */
-final class TextBoundaries {
+final class TextBoundaries extends Boundaries {
     private static final String TOO_LONG = "((a5)5)8a";
 
-    private final Sentences doc;
-    private final Check check;
-    private final Refusals refusals;
-
     TextBoundaries(Sentences doc, Check check) {
-        this.doc = doc;
-        this.check = check;
-        refusals = new Refusals(check);
+        super(doc, check);
     }
 
+    @Override
     void test() {
         doc.in("Promise 1");
         doc.says("Creates a laboratory with 3 positions.", this::newObject);

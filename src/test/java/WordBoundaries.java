@@ -1,20 +1,15 @@
 import java.util.function.Consumer;
 
 /** The boundaries that promises 9 to 17 name. */
-final class WordBoundaries {
+final class WordBoundaries extends Boundaries {
     private static final String NO_SUCH_SLOT =
             "Throws `IndexOutOfBoundsException` if there is no such slot";
 
-    private final Sentences doc;
-    private final Check check;
-    private final Refusals refusals;
-
     WordBoundaries(Sentences doc, Check check) {
-        this.doc = doc;
-        this.check = check;
-        refusals = new Refusals(check);
+        super(doc, check);
     }
 
+    @Override
     void test() {
         doc.in("Promise 9");
         doc.says("Returns the length of a stored word.", this::lengths);
