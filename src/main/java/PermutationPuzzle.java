@@ -273,7 +273,8 @@ public final class PermutationPuzzle {
 
     public double averageDepth() {
         DepthTable depths = currentTable();
-        return (double) depths.sumOfDepths() / (double) depths.size();
+        int all = depths.size();
+        return all > 0 ? (double) depths.sumOfDepths() / (double) all : 0;
     }
 
     public int orbit(int position) throws IndexOutOfBoundsException {
@@ -300,12 +301,13 @@ public final class PermutationPuzzle {
     public int fillShares(int row) throws IndexOutOfBoundsException {
         checkRow(row);
         DepthTable depths = currentTable();
-        for (int depth = 0; depth < ROW_LENGTH; depth++) {
+        int all = depths.size();
+        for (int depth = 0; all > 0 && depth < ROW_LENGTH; depth++) {
             int count = depths.sizeOfLevel(depth);
             if (row == FLOATS) {
-                floats[depth] = (float) count / (float) depths.size();
+                floats[depth] = (float) count / (float) all;
             } else {
-                doubles[depth] = (double) count / (double) depths.size();
+                doubles[depth] = (double) count / (double) all;
             }
         }
         return Math.max(0, depths.lastLevel() + 1 - ROW_LENGTH);
@@ -1025,7 +1027,7 @@ public final class PermutationPuzzle {
         /** Letters that move nothing, or the same as an earlier one, reach nothing new. */
         private void listTurns(Situation situation) {
             turnCount = 0;
-            for (int letter = 0; letter < LETTERS; letter++) {
+            for (int letter = 0; letter < LETTERS && turnCount < turns.length; letter++) {
                 int turn = situation.effectOfLetter(letter);
                 if (turn != SOLVED && !isListed(turn)) {
                     turns[turnCount] = turn;
@@ -1100,7 +1102,7 @@ public final class PermutationPuzzle {
 
         private void listWords(Situation situation) {
             letterCount = 0;
-            for (int letter = 0; letter < LETTERS; letter++) {
+            for (int letter = 0; letter < LETTERS && letterCount < letters.length; letter++) {
                 if (situation.isDefined(letter / 2)) {
                     letters[letterCount] = letter;
                     effects[letterCount] = situation.effectOfLetter(letter);
@@ -1109,7 +1111,7 @@ public final class PermutationPuzzle {
             }
             int next = letterCount;
             for (int first = 0; first < letterCount; first++) {
-                for (int second = 0; second < letterCount; second++) {
+                for (int second = 0; second < letterCount && next < effects.length; second++) {
                     effects[next] = Permutation.then(effects[first], effects[second]);
                     next++;
                 }

@@ -1,60 +1,32 @@
 import java.io.IOException;
 import java.lang.management.ManagementFactory;
-import java.lang.reflect.Constructor;
 import java.lang.reflect.Field;
 import java.lang.reflect.Method;
 import java.lang.reflect.Modifier;
 import java.nio.file.Files;
 import java.nio.file.Path;
-import java.util.Arrays;
+import java.util.List;
 import java.util.Set;
 import java.util.TreeSet;
+import java.util.regex.Matcher;
+import java.util.regex.Pattern;
 
-/** The public face, and those rules of LANGUAGE.md that a test can look at. */
+/** Those rules of LANGUAGE.md that a test can look at. */
 public final class LanguageTest {
     private static final Check CHECK = new Check();
     private static final Class<?> FACE = PermutationPuzzle.class;
     private static final String SOURCE = "src/main/java/PermutationPuzzle.java";
+    /** A line that begins a method of the face's class or of a class inside it. */
+    private static final Pattern METHOD = Pattern.compile(
+            "^( {4}| {8})(?!return |if |for |while |switch |else |do )"
+            + "(?:private |public |static )*(?:\\w+(?:\\[\\])? )?\\w+\\((?![^;]*;)");
 
-    private static final String[] METHODS = {
-        "int reset(int) IllegalArgumentException",
-        "int positions()",
-        "int append(char) IllegalArgumentException IllegalStateException",
-        "int define(int) IndexOutOfBoundsException IllegalArgumentException",
-        "int store(int) IndexOutOfBoundsException IllegalArgumentException IllegalStateException"
-            + " ArithmeticException",
-        "int errorPosition() NoSuchElementException",
-        "int target(int,int) IndexOutOfBoundsException NoSuchElementException",
-        "int wordLength(int) IndexOutOfBoundsException",
-        "int letter(int,int) IndexOutOfBoundsException",
-        "int invert(int,int) IndexOutOfBoundsException",
-        "int conjugate(int,int,int) IndexOutOfBoundsException ArithmeticException",
-        "int commutator(int,int,int) IndexOutOfBoundsException ArithmeticException",
-        "int order(int) IndexOutOfBoundsException",
-        "boolean isOdd(int) IndexOutOfBoundsException",
-        "int cycleLength(int,int) IndexOutOfBoundsException",
-        "boolean isSame(int,int) IndexOutOfBoundsException",
-        "int perform(int,int) IndexOutOfBoundsException IllegalArgumentException",
-        "int exchange(int,int) IndexOutOfBoundsException",
-        "int token(int) IndexOutOfBoundsException",
-        "int depth() NoSuchElementException",
-        "int solve(int) IndexOutOfBoundsException NoSuchElementException",
-        "int countAt(int)",
-        "int reachable()",
-        "int greatestDepth()",
-        "double averageDepth()",
-        "int orbit(int) IndexOutOfBoundsException",
-        "int findCommutator(int,int) IndexOutOfBoundsException NoSuchElementException",
-        "int fillShares(int) IndexOutOfBoundsException",
-        "int scale(int,int,int) IndexOutOfBoundsException IllegalArgumentException"
-            + " ArithmeticException",
-        "double remainder(int,int,int) IndexOutOfBoundsException ArithmeticException",
-        "void snapshot()",
-        "void restore() IllegalStateException"};
+    private static final Set<Class<?>> CONSTANTS =
+            Set.of(int.class, long.class, boolean.class, char.class, String.class);
 
     private static final String[] RULED_OUT = {"->", "::", "finally", "synchronized", "assert ",
         "Exact(", "try {", "catch (", "System.", "hashCode", ".equals(", "@Override", "package ",
-        "protected ", "static {", "import java.util.*", "lambda", "Random", "Thread"};
+        "protected ", "static {", "lambda", "Random", "Thread"};
 
     public static void main(String[] args) throws IOException {
         face();
@@ -64,37 +36,31 @@ public final class LanguageTest {
         CHECK.finish();
     }
 
+    /** Rule 1; the methods of the face are compared with the document's by DocumentTest. */
     private static void face() {
-        CHECK.due("public final", Modifier.toString(FACE.getModifiers()), "public final");
-        Constructor<?>[] constructors = FACE.getDeclaredConstructors();
-        CHECK.due("constructors", constructors.length, 1);
-        CHECK.due("constructor", Modifier.toString(constructors[0].getModifiers()), "public");
-        Set<String> got = new TreeSet<>();
-        for (Method method : FACE.getDeclaredMethods()) {
-            if (!Modifier.isPrivate(method.getModifiers())) {
-                CHECK.due(method.getName(), Modifier.toString(method.getModifiers()), "public");
-                got.add(signature(method));
-            }
-        }
-        CHECK.due("methods", got.toString(), new TreeSet<>(Arrays.asList(METHODS)).toString());
         for (Field field : FACE.getDeclaredFields()) {
             CHECK.due(field.getName(), Modifier.isPrivate(field.getModifiers()), true);
         }
+        CHECK.due("fields beside constants", fieldsOf(FACE) <= 20, true);
+        staticFields(FACE);
     }
 
-    private static String signature(Method method) {
-        StringBuilder text = new StringBuilder();
-        text.append(method.getReturnType().getSimpleName()).append(' ').append(method.getName());
-        text.append('(');
-        for (Class<?> type : method.getParameterTypes()) {
-            text.append(text.charAt(text.length() - 1) == '(' ? "" : ",");
-            text.append(type.getSimpleName());
+    private static int fieldsOf(Class<?> type) {
+        int count = 0;
+        for (Field field : type.getDeclaredFields()) {
+            count += Modifier.isStatic(field.getModifiers()) ? 0 : 1;
         }
-        text.append(')');
-        for (Class<?> type : method.getExceptionTypes()) {
-            text.append(' ').append(type.getSimpleName());
+        return count;
+    }
+
+    /** Rule 5. */
+    private static void staticFields(Class<?> type) {
+        for (Field field : type.getDeclaredFields()) {
+            if (Modifier.isStatic(field.getModifiers())) {
+                CHECK.due(field + " is final", Modifier.isFinal(field.getModifiers()), true);
+                CHECK.due("type of " + field, CONSTANTS.contains(field.getType()), true);
+            }
         }
-        return text.toString();
     }
 
     private static void insideTheClass() {
@@ -111,21 +77,19 @@ public final class LanguageTest {
         CHECK.due("classes", FACE.getDeclaredClasses().length <= 11, true);
         for (Class<?> inside : FACE.getDeclaredClasses()) {
             CHECK.due(inside.getName(), Modifier.isStatic(inside.getModifiers()), true);
-            CHECK.due(inside.getName(), inside.getDeclaredFields().length <= 20, true);
+            CHECK.due(inside.getName(), fieldsOf(inside) <= 20, true);
+            staticFields(inside);
             for (Method method : inside.getDeclaredMethods()) {
                 CHECK.due(method.toString(), names.contains(method.getName()), false);
                 CHECK.due(method.toString(), method.getParameterCount() <= 7, true);
-            }
-            for (Field field : inside.getDeclaredFields()) {
-                int modifiers = field.getModifiers();
-                CHECK.due(field.toString(),
-                        !Modifier.isStatic(modifiers) || Modifier.isFinal(modifiers), true);
             }
         }
     }
 
     private static void source() throws IOException {
         String source = Files.readString(Path.of(SOURCE));
+        imports(source);
+        methodLengths(source.lines().toList());
         for (String word : RULED_OUT) {
             CHECK.due("'" + word + "' in the source", source.contains(word), false);
         }
@@ -134,6 +98,30 @@ public final class LanguageTest {
                 CHECK.due("sign at " + i, source.charAt(i), 126);
             }
         }
+    }
+
+    /** Rule 4: no library but the exception that the document imports. */
+    private static void imports(String source) {
+        String rest = source.replace("import java.util.NoSuchElementException;\n", "");
+        CHECK.due("an import more", rest.contains("import "), false);
+        CHECK.due("a class by its full name", rest.contains("java."), false);
+    }
+
+    /** Rule 11: a method ends where a brace closes at the indentation at which it began. */
+    private static void methodLengths(List<String> lines) {
+        int methods = 0;
+        for (int start = 0; start < lines.size(); start++) {
+            Matcher matcher = METHOD.matcher(lines.get(start));
+            if (matcher.find()) {
+                int end = start;
+                while (!lines.get(end).equals(matcher.group(1) + "}")) {
+                    end++;
+                }
+                methods++;
+                CHECK.due("lines of" + lines.get(start), end - start < 60, true);
+            }
+        }
+        CHECK.due("methods found", methods > 100, true);
     }
 
     /** Calls that answer make no objects: the dearest stay far below the room of a run. */

@@ -68,8 +68,8 @@ final class Model {
 
     // ---- texts
 
-    /** A position that any cycle can take, for completions. */
-    private static final char FRESH = '?';
+    /** A position that any cycle can take, for completions; the buffer never holds its code. */
+    private static final char FRESH = 127;
 
     private boolean areCycles(String text) {
         Set<Character> seen = new HashSet<>();
@@ -78,7 +78,7 @@ final class Model {
                 return false;
             }
         }
-        return text.matches("(\\([0-9?]{2,}\\))*");
+        return text.matches("(\\([0-9" + FRESH + "]{2,}\\))*");
     }
 
     private int errorInCycles(String text) {
@@ -87,8 +87,9 @@ final class Model {
         }
         for (int end = 1; end <= text.length(); end++) {
             String prefix = text.substring(0, end);
-            if (prefix.indexOf(FRESH) >= 0 || !(areCycles(prefix) || areCycles(prefix + ")")
-                    || areCycles(prefix + "?)") || areCycles(prefix + "??)"))) {
+            if (!areCycles(prefix) && !areCycles(prefix + ")")
+                    && !areCycles(prefix + FRESH + ")")
+                    && !areCycles(prefix + FRESH + FRESH + ")")) {
                 return end - 1;
             }
         }

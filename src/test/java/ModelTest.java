@@ -17,6 +17,13 @@ public final class ModelTest {
         "averageDepth", "orbit", "findCommutator", "fillShares", "scale", "remainder", "snapshot",
         "restore"};
 
+    /** Texts with a gap for a character. */
+    private static final String[] CYCLES_AROUND = {"_", "_(12)", "(_12)", "(1_2)", "(1_)", "(12_",
+        "(12)_", "(12)(_", "(12)(3_)"};
+    private static final String[] WORDS_AROUND = {"_", "a_", "_a", "a'_", "a2_", "a'2_", "(_", "(_)",
+        "(a_)", "(a)_", "(a)'_", "<_", "<a_", "<a_e>", "<a,_", "<a,e_", "<a,e>_", "((((((_",
+        "((((((a_", "<<<<<(_)))"};
+
     private final Random random;
     private final PermutationPuzzle puzzle = new PermutationPuzzle();
     private final Model model = new Model();
@@ -31,16 +38,42 @@ public final class ModelTest {
     public static void main(String[] args) throws ReflectiveOperationException {
         int runs = args.length > 0 ? Integer.parseInt(args[0]) : RUNS;
         long calls = 0;
+        for (char character = 32; character <= 126; character++) {
+            ModelTest run = new ModelTest(character);
+            run.readEverywhere(character);
+            calls += run.finished("character " + character);
+        }
         for (int seed = 0; seed < runs; seed++) {
             ModelTest run = new ModelTest(seed);
             run.play();
-            calls += run.calls;
-            if (run.wrong) {
-                System.out.println("run " + seed + ": " + String.join("; ", run.history));
-                System.exit(1);
-            }
+            calls += run.finished("run " + seed);
         }
         System.out.println(runs + " runs with " + calls + " calls as the model's");
+    }
+
+    /** Answers the number of calls, all of which must have been as the model's. */
+    private int finished(String name) {
+        if (wrong) {
+            System.out.println(name + ": " + String.join("; ", history));
+            System.exit(1);
+        }
+        return calls;
+    }
+
+    /** Reads texts that have the character in each place in which the grammar tells kinds apart. */
+    private void readEverywhere(char character) throws ReflectiveOperationException {
+        call("define", 0);
+        call("define", 4);
+        for (String text : CYCLES_AROUND) {
+            type(text.replace('_', character));
+            call("define", 1);
+            call("errorPosition");
+        }
+        for (String text : WORDS_AROUND) {
+            type(text.replace('_', character));
+            call("store", 0);
+            call("errorPosition");
+        }
     }
 
     private void play() throws ReflectiveOperationException {
